@@ -230,10 +230,12 @@ public final class ActsTest {
         CHECK.due("without(-1)", desk.without(-1), 99_900);
         CHECK.due("the last night()", desk.night(), 1);
         CHECK.untimely("night() on day 5000", desk::night);
+        desk.sale(0, 1, 1000, 10000, 999);
+        CHECK.due("told(8) on day 5000", desk.told(8), 1000);
         CHECK.due("foretold(1) on day 5000", desk.foretold(1), 0);
         CHECK.due("without(-1) on day 5000", desk.without(-1), 0);
         CHECK.due("without(0) on day 5000", desk.without(0), 0);
-        CHECK.missing("without(2) on day 5000", () -> desk.without(2));
+        CHECK.missing("without(3) on day 5000", () -> desk.without(3));
         CHECK.due("status(2)", desk.status(2), 1);
         CHECK.due("told(2) stays", desk.told(2), 5000);
     }
@@ -326,7 +328,9 @@ public final class ActsTest {
     }
 
     private static void undoOfEachAct() {
-        FailDesk desk = Check.told("dealer 3;dealer 4;rate 999;lot 2;buyin 1;mark 110;rule price;sale 0 1 9 100 0;");
+        FailDesk desk = Check.told("dealer 3;dealer 4;rate 999;lot 2;buyin 3;mark 110;rule price;sale 0 1 30 100 0;sale 1 0 5 99 0;");
+        desk.night();
+        desk.buyin(0, 2);
         long[] ahead = everything(desk);
         desk.sale(1, 0, 4, 90, 0);
         back(desk, "sale()", ahead);
@@ -357,13 +361,14 @@ public final class ActsTest {
     }
 
     private static long[] everything(FailDesk desk) {
-        long[] all = new long[40];
+        long[] all = new long[48];
         int n = 0;
         for (int i = 0; i <= 8; i++) {
             all[n++] = desk.told(i);
             all[n++] = desk.dealer(0, i);
             all[n++] = desk.dealer(1, i);
             all[n++] = desk.of(0, i);
+            all[n++] = desk.of(1, i);
         }
         all[n++] = desk.rule(0);
         all[n++] = desk.outside();

@@ -42,19 +42,19 @@ public final class AheadTest {
     /** Small houses, of which all ways to settle are tried. */
     private static void mostTried() {
         Random random = new Random(7);
-        for (int run = 0; run < 300; run++) {
-            int dealers = 2 + random.nextInt(3);
+        for (int run = 0; run < 600; run++) {
+            int dealers = 2 + random.nextInt(4);
             int[] stock = new int[dealers];
             StringBuilder text = new StringBuilder();
             for (int i = 0; i < dealers; i++) {
                 stock[i] = random.nextInt(3);
                 text.append("dealer ").append(stock[i]).append(';');
             }
-            int[][] sales = new int[2 + random.nextInt(4)][];
+            int[][] sales = new int[2 + random.nextInt(6)][];
             for (int i = 0; i < sales.length; i++) {
                 int seller = random.nextInt(dealers);
                 int buyer = (seller + 1 + random.nextInt(dealers - 1)) % dealers;
-                sales[i] = new int[] {seller, buyer, 1 + random.nextInt(4), 1 + random.nextInt(9)};
+                sales[i] = new int[] {seller, buyer, 1 + random.nextInt(3), 1 + random.nextInt(9)};
                 text.append("sale ").append(seller).append(' ').append(buyer).append(' ').append(sales[i][2])
                         .append(' ').append(sales[i][3]).append(" 0;");
             }

@@ -8,6 +8,8 @@ public final class AskedTest {
         of();
         order();
         parts();
+        partsOfMany();
+        partsAreThoseOfNow();
         partsRefused();
         chain();
         ring();
@@ -139,6 +141,32 @@ public final class AskedTest {
         CHECK.due("dealer(3, 6)", desk.dealer(3, 6), 0);
     }
 
+    private static void partsOfMany() {
+        FailDesk desk = Check.told(dealers(2));
+        desk.sale(0, 1, 1, 1, 0);
+        for (int i = 1; i < 24; i++) {
+            desk.sale(i / 12, 1 - i / 12, 2, 1, 0);
+        }
+        for (int i = 0; i < 24; i++) {
+            CHECK.due("parts(" + i + ") of many", desk.parts(i), i == 0 || i == 23 ? 1 : 2);
+        }
+        CHECK.due("part(23, 0, 0)", desk.part(23, 0, 0), 11);
+        CHECK.due("part(22, 1, 0)", desk.part(22, 1, 0), 11);
+        CHECK.due("part(11, 1, 0)", desk.part(11, 1, 0), 23);
+    }
+
+    private static void partsAreThoseOfNow() {
+        FailDesk desk = Check.told(dealers(3) + "sale 0 1 5 5 0;sale 1 2 5 5 0;");
+        for (int i = 0; i < 100; i++) {
+            CHECK.due("parts(1), asked again", desk.parts(1), 1);
+        }
+        CHECK.due("dealer(0, 6)", desk.dealer(0, 6), 5);
+        desk.buyin(1, 5);
+        CHECK.due("parts(1), closed", desk.parts(1), 0);
+        CHECK.due("dealer(0, 6), closed", desk.dealer(0, 6), 0);
+        CHECK.missing("part(1, 0, 0), closed", () -> desk.part(1, 0, 0));
+    }
+
     private static void partsRefused() {
         FailDesk desk = Check.told(dealers(3) + "sale 0 1 5 5 0;sale 1 2 5 5 0;sale 1 2 5 5 3;");
         CHECK.missing("parts(3)", () -> desk.parts(3));
@@ -173,6 +201,10 @@ public final class AskedTest {
         CHECK.due("chain(2, 1)", round.chain(2, 1), 1);
         CHECK.due("chain(2, 2)", round.chain(2, 2), 0);
         CHECK.missing("chain(2, 3)", () -> round.chain(2, 3));
+        FailDesk loop = Check.told(dealers(4) + "sale 2 3 2 5 0;sale 1 2 5 5 0;sale 2 1 5 5 0;");
+        CHECK.due("chain(0, 1) into a loop", loop.chain(0, 1), 1);
+        CHECK.due("chain(0, 2) into a loop", loop.chain(0, 2), 2);
+        CHECK.missing("chain(0, 3) into a loop", () -> loop.chain(0, 3));
         FailDesk ring = Check.told(dealers(2) + "sale 0 1 5 5 0;sale 1 0 5 5 0;");
         CHECK.due("chain(0, 1)", ring.chain(0, 1), 1);
         CHECK.missing("chain(0, 2), it is in the chain already", () -> ring.chain(0, 2));
@@ -212,6 +244,16 @@ public final class AskedTest {
                 "past sales that are in none", 2, 2, 3);
         rings(Check.told(dealers(4) + "sale 0 1 3 1 0;sale 1 2 3 1 0;sale 2 3 3 1 0;sale 3 1 2 1 0;sale 2 0 1 1 0;"),
                 "past a round that does not lead home", 1, 0, 1, 4);
+        rings(Check.told(dealers(3) + "sale 0 2 2 1 0;sale 2 1 3 1 0;sale 1 0 4 1 0;"), "the least is the first", 2, 0, 1, 2);
+        rings(Check.told(dealers(4) + "sale 0 1 3 1 0;sale 1 2 3 1 0;sale 2 3 3 1 0;sale 3 0 3 1 0;sale 2 1 3 1 0;"),
+                "of one who sells to several", 3, 0, 1, 2, 3);
+        rings(Check.told(dealers(3) + "sale 0 1 3 1 0;sale 1 2 3 1 0;sale 2 1 3 1 0;sale 2 0 3 1 0;sale 1 0 3 1 0;"),
+                "none sold by the same, though he could lead home", 3, 0, 1, 3);
+        FailDesk desk = Check.told(dealers(3) + "sale 0 1 3 1 0;sale 1 2 3 1 0;sale 1 0 3 1 0;");
+        desk.sale(2, 0, 3, 1, 0);
+        rings(desk, "with one more sale", 3, 0, 1, 3);
+        desk.undo();
+        rings(desk, "with that taken back", 3, 0, 2);
     }
 
     private static void ringOfAll() {

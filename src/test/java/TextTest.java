@@ -73,6 +73,12 @@ public final class TextTest {
         CHECK.due("outside() told anew", desk.outside(), 0);
         desk.sale(0, 1, 5, 7, 0);
         CHECK.due("rule(0), the old rule is gone", desk.rule(0), 0);
+        CHECK.due("rule told once more", Check.tell(desk, "rule 1+price;" + TWO + "sale 0 1 5 7 0;sale 1 0 5 7 0;"), 2);
+        CHECK.due("rule(0)", desk.rule(0), 8);
+        desk.night();
+        CHECK.due("rule told a third time", Check.tell(desk, "rule 2*price;" + TWO), 0);
+        desk.sale(0, 1, 5, 7, 0);
+        CHECK.due("rule(0), anew", desk.rule(0), 14);
         CHECK.due("of(0, 6) of a sale told anew", desk.of(0, 6), 0);
         CHECK.due("of(0, 7) of a sale told anew", desk.of(0, 7), 0);
         CHECK.due("of(0, 8) of a sale told anew", desk.of(0, 8), 0);
@@ -166,6 +172,10 @@ public final class TextTest {
         bad("dealer 1;;", 1, 9);
         bad("dealer 1\t;", 1, 8);
         bad("age;", 1, 0);
+        bad("rulez 1;", 1, 0);
+        bad("xealer 1;", 1, 0);
+        bad("dealex 1;", 1, 0);
+        bad("rate 1;lot 1;mark 1;rate 1;", 1, 20);
         bad("rate 1;rate 2;", 1, 7);
         bad("lot 1;lot 1;", 1, 6);
         bad("buyin 1;buyin 1;", 1, 8);
