@@ -7,6 +7,7 @@ public final class AheadTest {
     public static void main(String[] args) {
         most();
         mostTried();
+        mostBesideTheModel();
         foretold();
         without();
         nothingStaysChanged();
@@ -59,6 +60,34 @@ public final class AheadTest {
                         .append(' ').append(sales[i][3]).append(" 0;");
             }
             both(text.toString(), tried(stock, sales, 0, false), tried(stock, sales, 0, true));
+        }
+    }
+
+    /** Houses with as many sales as there can be, in which what was given up for one is given to another. */
+    private static void mostBesideTheModel() {
+        Random random = new Random(11);
+        for (int run = 0; run < 800; run++) {
+            FailDesk desk = new FailDesk();
+            Model model = new Model();
+            int dealers = 4 + random.nextInt(5);
+            StringBuilder text = new StringBuilder();
+            for (int i = 0; i < dealers; i++) {
+                text.append("dealer ").append(random.nextInt(3) * random.nextInt(40)).append(';');
+            }
+            Check.tell(desk, text.toString());
+            model.tape.append(text);
+            model.text(text.length());
+            int sales = 6 + random.nextInt(19);
+            for (int i = 0; i < sales; i++) {
+                int seller = random.nextInt(dealers);
+                int buyer = (seller + 1 + random.nextInt(dealers - 1)) % dealers;
+                int units = 1 + random.nextInt(run % 2 == 0 ? 9 : 100);
+                int price = 1 + random.nextInt(run % 3 == 0 ? 5 : 1000);
+                desk.sale(seller, buyer, units, price, 0);
+                model.sale(seller, buyer, units, price, 0);
+            }
+            CHECK.due("most(0) of house " + run, desk.most(0), model.most(0));
+            CHECK.due("most(1) of house " + run, desk.most(1), model.most(1));
         }
     }
 
