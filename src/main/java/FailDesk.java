@@ -710,6 +710,7 @@ public final class FailDesk {
             faultPlace = NONE;
             next = 0;
             linesSeen = 0;
+            codeLength = 0;
             house.empty();
             for (int i = 0; i < MOST_BYTES && kind[next] != END && fault == 0; i++) {
                 readLine();
@@ -863,7 +864,9 @@ public final class FailDesk {
                     house.mark = readOnce(MARK_LINE, 1, MOST_PRICE);
                     break;
                 case RULE_LINE:
-                    readRule();
+                    takeOnce(RULE_LINE);
+                    readSum(0);
+                    keepRule();
                     break;
                 default:
                     refuse(NOT_THERE);
@@ -912,10 +915,7 @@ public final class FailDesk {
             advance();
         }
 
-        private void readRule() {
-            takeOnce(RULE_LINE);
-            codeLength = 0;
-            readSum(0);
+        private void keepRule() {
             if (fault == 0) {
                 house.code = Arrays.copyOf(code, codeLength);
             }
@@ -946,15 +946,9 @@ public final class FailDesk {
             } else if (kind[next] == WORD && value[next] < UNKNOWN) {
                 write(value[next]);
                 advance();
-            } else if (isNext('(') || isNext('-')) {
-                readNested(depth);
-            } else {
+            } else if (!isNext('(') && !isNext('-')) {
                 refuse(NOT_THERE);
-            }
-        }
-
-        private void readNested(int depth) {
-            if (depth >= MOST_DEPTH) {
+            } else if (depth >= MOST_DEPTH) {
                 refuse(TOO_DEEP);
             } else if (isNext('(')) {
                 advance();

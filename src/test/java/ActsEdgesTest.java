@@ -9,6 +9,7 @@ public final class ActsEdgesTest {
 
     public static void main(String[] args) {
         saleNumbers();
+        saleOfANumberUsedAgain();
         saleRefusedForNobody();
         saleRefusedForNumbers();
         saleRefusedAsFull();
@@ -19,6 +20,7 @@ public final class ActsEdgesTest {
         ringsAsLongAsThereIsOne();
         cashBelowNought();
         deliveryOfAllOrLots();
+        deliveryNightByNight();
         deliveryOfDueAlone();
         deliveryAgainFromTheFirst();
         penaltiesCut();
@@ -77,6 +79,34 @@ public final class ActsEdgesTest {
         CHECK.due("told(1)", desk.told(1), 24);
         desk.undo();
         CHECK.due("the 24th again", desk.sale(0, 1, 1, 1, 0), 23);
+    }
+
+    /** A SALE whose number was another one's, taken back or told anew, begins with nothing settled. */
+    private static void saleOfANumberUsedAgain() {
+        FailDesk desk = Check.told("dealer 4;" + dealers(1) + "mark 150;");
+        desk.sale(0, 1, 10, 100, 0);
+        desk.sale(1, 0, 3, 100, 0);
+        desk.night();
+        desk.buyin(0, 2);
+        int[] due = {1, 3, 4, 2};
+        for (int i = 0; i < due.length; i++) {
+            CHECK.due("of(0, " + (5 + i) + ")", desk.of(0, 5 + i), due[i]);
+        }
+        for (int i = 0; i < 4; i++) {
+            desk.undo();
+        }
+        CHECK.due("sale 0 again", desk.sale(0, 1, 7, 100, 0), 0);
+        int[] anew = {7, 0, 0, 0};
+        for (int i = 0; i < anew.length; i++) {
+            CHECK.due("of(0, " + (5 + i) + ") again", desk.of(0, 5 + i), anew[i]);
+        }
+        desk.night();
+        desk.buyin(0, 1);
+        Check.tell(desk, dealers(2));
+        CHECK.due("sale 0 anew", desk.sale(0, 1, 7, 100, 0), 0);
+        for (int i = 0; i < anew.length; i++) {
+            CHECK.due("of(0, " + (5 + i) + ") anew", desk.of(0, 5 + i), anew[i]);
+        }
     }
 
     private static void refusedSale(FailDesk desk, int reason, int... a) {
@@ -251,6 +281,29 @@ public final class ActsEdgesTest {
         FailDesk hundred = Check.told("dealer 199;dealer 0;lot 100;sale 0 1 500 1 0;");
         hundred.night();
         open(hundred, "by the greatest lot", 400);
+    }
+
+    /** "6 units SETTLED in RINGS, 7 DELIVERED, 8 CLOSED", of all nights and buy-ins together. */
+    private static void deliveryNightByNight() {
+        FailDesk desk = Check.told(dealers(2) + "mark 150;buyin 30;sale 0 1 100 100 0;");
+        int settled = 0;
+        int delivered = 0;
+        int closed = 0;
+        for (int i = 1; i <= 5; i++) {
+            desk.stock(0, i);
+            desk.sale(1, 0, 2 * i, 100, 0);
+            desk.night();
+            desk.buyin(0, i);
+            settled += 2 * i;
+            delivered += i;
+            closed += i;
+            CHECK.due("of(0, 5) behind night " + i, desk.of(0, 5), 100 - settled - delivered - closed);
+            CHECK.due("of(0, 6) behind night " + i, desk.of(0, 6), settled);
+            CHECK.due("of(0, 7) behind night " + i, desk.of(0, 7), delivered);
+            CHECK.due("of(0, 8) behind night " + i, desk.of(0, 8), closed);
+            CHECK.due("dealer(0, 7) behind night " + i, desk.dealer(0, 7), 50L * closed);
+            CHECK.due("dealer(1, 8) behind night " + i, desk.dealer(1, 8), closed);
+        }
     }
 
     /** "If it is ASKED": due today or earlier, and OPEN above 0. */
